@@ -151,6 +151,10 @@ public final class OracleTests {
             }
             sweep();
         }
+        o.w = new Oracle.World();
+        o.settle();
+        check.due("state() of nothing", Check.tell(x, ""), 0);
+        sweep();
     }
 
     private int numberNear(int bound) {
@@ -299,10 +303,11 @@ public final class OracleTests {
                 }
             }
         }
-        for (int a : numbers(2)) {
-            for (int b : numbers(2)) {
-                check.due("cut(" + a + ", " + b + ")", x.cut(a, b), o.cutBoth(a, b)[0]);
-                check.due("cuts(" + a + ", " + b + ")", x.cuts(a, b), o.cutBoth(a, b)[1]);
+        for (int a : numbers(5)) {
+            for (int b : new int[] {a, draw(5), draw(3), numberNear(5)}) {
+                int[] cut = o.cutBoth(a, b);
+                check.due("cut(" + a + ", " + b + ")", x.cut(a, b), cut[0]);
+                check.due("cuts(" + a + ", " + b + ")", x.cuts(a, b), cut[1]);
             }
         }
         for (int a : numbers(12)) {

@@ -255,6 +255,9 @@ public final class PromiseTests {
         due("not closed", x.street(0, 2), 0);
         due("no lines", x.state(), 0);
         due("there is none then", x.pack(), -2);
+        for (int what = 0; what < 12; what++) {
+            due("count(" + what + ")", x.count(what), 0);
+        }
         due("no corners", x.reach(0), -2);
         due("no steps", x.awake(0), -2);
         due("blanks of both kinds, and none where tokens part",
@@ -291,6 +294,15 @@ public final class PromiseTests {
         due("later", x.state(), 0);
         due("fault(0)", x.fault(0), 0);
         due("fault(1)", x.fault(1), -1);
+        Check.tape(x, "state corners 19 steps");
+        x.end(15);
+        due("cut behind a number", x.state(), -4);
+        due("what the tape had once is not read", x.fault(0), 1);
+        due("the end's place", x.fault(1), 15);
+        Check.tape(x, "state cornersss");
+        x.end(13);
+        due("cut behind a word", x.state(), -4);
+        due("the end's place", x.fault(1), 13);
         misplaced();
         outOfBounds();
         tooMany();
@@ -318,6 +330,10 @@ public final class PromiseTests {
         faultOf(s + ";", 1, at);
         faultOf(s + "city", 1, at);
         faultOf(s + "corners 3;", 1, at);
+        faultOf(s + "streetz 0 to 1;", 1, at);
+        faultOf(s + "streeta 0 to 1;", 1, at);
+        faultOf(s + "stree 0 to 1;", 1, at);
+        faultOf(s + "atreet 0 to 1;", 1, at);
         faultOf(s + "street 0 1;", 1, at + 9);
         faultOf(s + "street 0 to;", 1, at + 11);
         faultOf(s + "street 0 to 1 to 2;", 1, at + 14);
@@ -363,6 +379,9 @@ public final class PromiseTests {
         faultOf(n + "contract 0 0;", 2, n.length() + 11);
         faultOf(n + "contract 0 1 1;", 2, n.length() + 13);
         faultOf(n + "contract 0 1 0;", 2, n.length() + 13);
+        faultOf(n + "contract 0 1 2;", 2, n.length() + 13);
+        faultOf(n + "contract 0 1 3;", 2, n.length() + 13);
+        faultOf(n + "contract 2 1;", 2, n.length() + 9);
         faultOf(n + "contract 0 2;name at 0 ink 1 loops 0;", 2, n.length() + 11);
         faultOf(n + "contract 0 0 zero?", 2, n.length() + 11);
     }
@@ -910,6 +929,14 @@ public final class PromiseTests {
         due("law 0 spends the ink of two at once", x.by(0), 2);
         due("laws 1 and 2 sign all", x.by(2), 5);
         due("the least of these", x.law(), 1);
+        String last = better.replace("name at 0 ink 40 loops 0;", "name at 0 ink 40 loops 0;"
+                + many(2, "name at 0 ink 1 loops 0;")) + "contract 3 4;";
+        LeashedNames y = Check.of(told(2, 4, 0, last));
+        due("law 0", y.by(0), 3);
+        due("law 1", y.by(1), 4);
+        due("law 2", y.by(2), 5);
+        due("law 3", y.by(3), 6);
+        due("the last one", y.law(), 3);
     }
 
     private void needs() {
