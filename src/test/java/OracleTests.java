@@ -30,6 +30,11 @@ public final class OracleTests {
             new OracleTests(check, seed).texts();
             check.finish();
         }
+        for (int seed = 1; seed <= 6; seed++) {
+            check.begin("largest state " + seed);
+            new OracleTests(check, seed).largestStates();
+            check.finish();
+        }
         check.close();
     }
 
@@ -68,6 +73,58 @@ public final class OracleTests {
             w.contracts.add(party);
         }
         return w;
+    }
+
+    /** As much of everything as a state can have, so that no row may be too short. */
+    private Oracle.World largest() {
+        Oracle.World w = new Oracle.World();
+        w.there = true;
+        w.corners = 8;
+        w.steps = 20;
+        w.law = draw(4);
+        w.odds = 5;
+        for (int i = 0; i < 12; i++) {
+            int a = draw(8);
+            w.streets.add(new int[] {a, (a + 1 + draw(7)) % 8});
+        }
+        for (int i = 0; i < 4; i++) {
+            w.wells.add(new int[] {draw(8), 20});
+        }
+        for (int i = 0; i < 5; i++) {
+            Oracle.Nm n = drawName(w);
+            for (int k = n.walk.size(); k < 8; k++) {
+                n.walk.add(draw(8));
+            }
+            n.ink = 40 - draw(3);
+            w.names.add(n);
+        }
+        for (int i = 0; i < 6; i++) {
+            w.contracts.add(new TreeSet<>(List.of(i % 5, (i + 1) % 5, (i + 2 + i / 5) % 5)));
+        }
+        return w;
+    }
+
+    private void largestStates() {
+        tell(largest());
+        check.due("lines", x.count(9), 28);
+        for (int step = 0; step < 20; step += 5) {
+            for (int seen = 0; seen < 8; seen++) {
+                fillRow(0, step + 1, seen);
+                check.due("homes", x.homes(0, 4), o.homes(0, 4));
+            }
+        }
+        check.due("row", x.row(0, 3, 0), o.row(0, 3, 0));
+        sweep();
+        for (int i = 0; i < 31; i++) {
+            check.due("send", x.send(i % 5, i % 8, 19 - i % 20), o.send(i % 5, i % 8, 19 - i % 20));
+        }
+        sweep();
+    }
+
+    private void fillRow(int slot, long first, long second) {
+        check.due("row", x.row(slot, 3, 2), o.row(slot, 3, 2));
+        check.due("write", x.write(slot, 0, first), o.write(slot, 0, first));
+        check.due("write", x.write(slot, 1, second), o.write(slot, 1, second));
     }
 
     private Oracle.Nm drawName(Oracle.World w) {
