@@ -2,29 +2,12 @@
  * Promise by promise, with answers worked out by hand from the document: ordinary inputs, the edges
  * that it names, and wrong inputs.
  */
-public final class PromiseTests {
-    private static final int MIN = Integer.MIN_VALUE;
-    private static final int MAX = Integer.MAX_VALUE;
-
-    /*
-     * Name 0 goes 0 1 2 1 2 1 2 with ink 5 8 7 11 10 14 13, name 1 goes 2 1 1 1 1 1 1 with ink
-     * 3 6 10 14 18 22 26, name 2 sleeps at 4; contract 0 is signed at step 1 at corner 1.
-     */
-    private static final String TOWN = "state corners 5 steps 6 law 0 odds 3;"
-            + "street 0 to 1;street 1 to 2;street 2 to 3;well 1 feeds 2;well 1 feeds 3;"
-            + "name at 0 ink 5 loops 7 walks 1 walks 2;name at 2 ink 3 loops 12 walks 1;"
-            + "name at 4 ink 0 loops 30;contract 0 1;contract 1 0 2;";
-
+public final class PromiseTests extends Cases {
     /** Corners 0 to 3 on a line, 0 4 3 beside it, 5 by itself. */
     private static final String RING = "state corners 6 steps 1 law 0 odds 0;street 0 to 1;street 1 to 2;"
             + "street 2 to 3;street 0 to 4;street 4 to 3;name at 0 ink 0 loops 0;name at 3 ink 0 loops 0;"
             + "name at 2 ink 0 loops 0;name at 5 ink 0 loops 0;name at 0 ink 0 loops 0;"
             + "contract 0 1;contract 0 1 2;contract 2 3;contract 0 4;";
-
-    /** Name 0 goes along 0 1 2 3 from home; what it does elsewhere is told in promise 46. */
-    private static final String LINE = "state corners 4 steps 3 law 0 odds 0;street 0 to 1;street 1 to 2;"
-            + "street 2 to 3;name at 0 ink 9 loops 7 walks 1 walks 2 walks 3;name at 3 ink 9 loops 12;"
-            + "name at 3 ink 9 loops 30;";
 
     /** They miss one another if both walk or both stay, and sign if one of them walks. */
     private static final String SWAP = "state corners 2 steps 4 law 0 odds 0;street 0 to 1;"
@@ -34,10 +17,8 @@ public final class PromiseTests {
     private static final String WET = "state corners 2 steps 9 law 0 odds 3;street 0 to 1;"
             + "name at 0 ink 9 loops 0 walks 1;name at 1 ink 9 loops 0;contract 0 1;";
 
-    private final Check check;
-
     private PromiseTests(Check check) {
-        this.check = check;
+        super(check);
     }
 
     public static void main(String[] args) {
@@ -145,36 +126,6 @@ public final class PromiseTests {
         }
     }
 
-    private void due(String call, long got, long want) {
-        check.due(call, got, want);
-    }
-
-    private static LeashedNames nothing() {
-        return new LeashedNames();
-    }
-
-    private static LeashedNames with(String text, int slot, long... numbers) {
-        LeashedNames x = Check.of(text);
-        fill(x, slot, 3, numbers);
-        return x;
-    }
-
-    private static void fill(LeashedNames x, int slot, int width, long... numbers) {
-        x.row(slot, width, numbers.length);
-        for (int i = 0; i < numbers.length; i++) {
-            x.write(slot, i, numbers[i]);
-        }
-    }
-
-    /** A state's head and what follows it. */
-    private static String told(int corners, int steps, int law, String more) {
-        return "state corners " + corners + " steps " + steps + " law " + law + " odds 0;" + more;
-    }
-
-    private static String many(int times, String text) {
-        return text.repeat(times);
-    }
-
     // ---- the tape and the state ----
 
     private void newObject() {
@@ -263,21 +214,6 @@ public final class PromiseTests {
         due("blanks of both kinds, and none where tokens part",
                 Check.tell(x, "\n state\ncorners3steps 2law0 odds00000000000000000009 \n;\n \n"), 1);
         due("odds", x.count(3), 9);
-    }
-
-    private void faultOf(String text, int fault, int place) {
-        LeashedNames x = nothing();
-        due("state() of " + text, Check.tell(x, text), -4);
-        due("fault(0) of " + text, x.fault(0), fault);
-        due("fault(1) of " + text, x.fault(1), place);
-    }
-
-    private void noFaultIn(String text, int lines) {
-        LeashedNames x = nothing();
-        Check.tell(x, "a");
-        due("state() of " + text, Check.tell(x, text), lines);
-        due("fault(0)", x.fault(0), 0);
-        due("fault(1)", x.fault(1), -1);
     }
 
     private void fault() {
@@ -1017,9 +953,6 @@ public final class PromiseTests {
 
     // ---- where a name lives, and whose a forgery is ----
 
-    /*
-     * Living at 0, 1, 2, 3 the name of LINE goes 0 1 2 3, 1 1 2 3, 2 1 2 3 and 3 3 2 3.
-     */
     private void homes() {
         due("at 1 at step 1", with(LINE, 0, 1, 1).homes(0, 0), 7);
         due("at 2 at step 2", with(LINE, 0, 2, 2).homes(0, 0), 15);
