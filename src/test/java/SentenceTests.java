@@ -163,6 +163,12 @@ public final class SentenceTests extends Cases {
             due("an empty tape", x.state(), 0);
             due("none then", look(x).equals(look(nothing())) ? 0 : 1, 0);
             due("none then", x.pack(), -2);
+            Check.tell(x, ring(20, 3, 10));
+            due("an empty tape behind the most", x.state(), 0);
+            due("none then", look(x).equals(look(nothing())) ? 0 : 1, 0);
+            Check.tell(x, ring(20, 3, 10));
+            Check.tell(x, told(8, 20, 0, ""));
+            due("no wells are left", look(x).equals(look(Check.of(told(8, 20, 0, "")))) ? 0 : 1, 0);
             due("blanks", Check.tell(x, many(900, "\n")), 0);
             due("none then", x.awake(0), -2);
         });
@@ -382,6 +388,8 @@ public final class SentenceTests extends Cases {
             due("at step 0 and 1", Check.of(told(1, 1, 0, "well 0 feeds 1;name at 0 ink 0 loops 0;")).drinks(0), 2);
             due("20, then 1", Check.of(told(1, 1, 0, "well 0 feeds 20;name at 0 ink 40 loops 0;")).drinks(0), 21);
             due("19, then 2", Check.of(told(1, 1, 0, "well 0 feeds 19;name at 0 ink 40 loops 0;")).drinks(0), 19 + 2);
+            due("coming with the last ink", Check.of(told(2, 1, 0, "street 0 to 1;" + many(4, "well 1 feeds 20;")
+                    + "name at 0 ink 1 loops 0 walks 1;")).drinks(0), 60);
             due("60, then 1", Check.of(told(1, 1, 0, many(4, "well 0 feeds 20;") + "name at 0 ink 0 loops 0;")).drinks(0), 61);
         });
         sentence("-2 likewise.", () -> nameBounds(n -> ring().drinks(n), n -> least().drinks(n)));
@@ -597,6 +605,10 @@ public final class SentenceTests extends Cases {
             due("all", alike(5, 0, "").pack(), 5);
             due("one alone", alike(1, 0, "").pack(), 1);
             due("no names", least().pack(), 0);
+            String meeting = "street 0 to 1;name at 0 ink 1 loops 0 walks 1;name at 1 ink 0 loops 0;";
+            due("at the last step alone", Check.of(told(2, 1, 0, meeting)).pack(), 2);
+            String parting = "street 0 to 1;name at 0 ink 1 loops 0 walks 1;name at 0 ink 0 loops 0;";
+            due("at step 0 alone", Check.of(told(2, 1, 0, parting)).pack(), 2);
             due("not all steps together", Check.of(told(2, 20, 0, "name at 0 ink 0 loops 0;name at 1 ink 0 loops 0;")).pack(), 1);
         });
         sentence("-2: there is no STATE.", () -> due(NO_STATE, nothing().pack(), -2));
@@ -640,6 +652,7 @@ public final class SentenceTests extends Cases {
         sentence("The NAME that has no ink at the end of the earliest STEP, the first of several.", () -> {
             due("at step 0", sleepers().thirst(), 3);
             due("the first of several", alike(5, 1, "").thirst(), 0);
+            due("name 0 alone", Check.of(told(1, 5, 0, "name at 0 ink 5 loops 0;name at 0 ink 6 loops 0;")).thirst(), 0);
             due("at the last step", Check.of(told(1, 2, 0, "name at 0 ink 3 loops 0;name at 0 ink 2 loops 0;")).thirst(), 1);
             due("the earliest", Check.of(told(1, 5, 0, "name at 0 ink 4 loops 0;name at 0 ink 3 loops 0;name at 0 ink 3 loops 0;"))
                     .thirst(), 1);
@@ -777,6 +790,8 @@ public final class SentenceTests extends Cases {
             due("0 and 1 of a ring", ring().cuts(0, 1), 3);
             due("0 and 4 of a ring", ring().cuts(0, 4), 17);
             due("0 of a row", Check.of(row(1, ends())).cuts(0, 1), 1);
+            due("one rather than two lesser ones", Check.of(told(3, 1, 0, many(2, "street 0 to 1;") + "street 1 to 2;"
+                    + "name at 0 ink 0 loops 0;name at 2 ink 0 loops 0;")).cuts(0, 1), 4);
             LeashedNames x = Check.of(twelve);
             due("all of them", x.cuts(0, 1), 4095);
             x.close(0, 1);
@@ -825,6 +840,7 @@ public final class SentenceTests extends Cases {
             String better = "street 0 to 1;well 1 feeds 1;" + many(2, "name at 0 ink 2 loops 0 walks 1;")
                     + "name at 0 ink 40 loops 0;contract 0 1 2;" + many(4, "contract 0 1;");
             due("1, not 2", Check.of(told(2, 4, 0, better)).law(), 1);
+            due("3", Check.of(told(2, 4, 0, better + many(2, "name at 0 ink 1 loops 0;") + "contract 3 4;")).law(), 3);
         });
         sentence("-2: there is no STATE.", () -> due(NO_STATE, nothing().law(), -2));
         section("42");
@@ -1026,6 +1042,8 @@ public final class SentenceTests extends Cases {
             due("by 3", next(0, 2), 3);
             due("by 4", next(0, 6), 4);
             due("by 5, since 12 is left by 2, 3, 4 and 6", next(0, 12), 5);
+            due("by 3, the one that is ruled out aside", with(told(1, 1, 0, "name at 0 ink 0 loops 0;name at 0 ink 0 loops 4;"
+                    + "name at 0 ink 0 loops 3;"), 0, 4, 0).next(0), 3);
             due("by 9, of five", with(told(1, 1, 0, "name at 0 ink 0 loops 0;name at 0 ink 0 loops 40;name at 0 ink 0 loops 24;"
                     + "name at 0 ink 0 loops 16;name at 0 ink 0 loops 56;"), 0).next(0), 9);
         });
@@ -1109,6 +1127,10 @@ public final class SentenceTests extends Cases {
             LeashedNames y = Check.of(told(2, 4, 0, "street 0 to 1;name at 0 ink 9 loops 0 walks 1;name at 1 ink 9 loops 0 walks 0;"
                     + "contract 0 1;"));
             due("one of them stays", y.rests(0, 1), 2 | 4);
+            LeashedNames chain = Check.of(told(3, 1, 0, "street 0 to 1;street 1 to 2;name at 0 ink 9 loops 0 walks 1;"
+                    + "name at 1 ink 9 loops 0 walks 2;name at 2 ink 9 loops 0;contract 0 1;contract 1 2;"));
+            due("one of them stays", chain.rests(0, 1), 2 | 4);
+            due("one of them stays", chain.rests(1, 0), 2 | 4);
             LeashedNames z = Check.of(told(3, 1, 0, "street 0 to 1;name at 0 ink 9 loops 0 walks 1;name at 2 ink 9 loops 0;"));
             due("the first stays, the other as it likes", z.rests(0, 1), 2 | 8);
             due("told the other way round", z.rests(1, 0), 4 | 8);
@@ -1212,6 +1234,9 @@ public final class SentenceTests extends Cases {
             due("of several the last told", x.send(0, 3, 19), 3);
             due("of several the last told", x.send(0, 4, 19), 4);
             due("one alone is sent", x.at(1, 20), 5);
+            for (int name = 1; name < 4; name++) {
+                due("name " + name + " goes on to where it would", x.send(name, name + 1, 0), (name + 20) % 8);
+            }
             due("from step 0, to where it is", x.send(4, 4, 0), 4);
             due("from step 0, to another", x.send(4, 5, 0), 4);
             due("at step 1", x.at(4, 1), 5);
@@ -1378,6 +1403,7 @@ public final class SentenceTests extends Cases {
                     due("luck(" + seed + ", " + n + ", 0)", x.luck(seed, n, 0), dry);
                 }
             }
+            due("of the last contract", ring().luck(0, 20, 5) + Check.of(wet(20, 0) + "contract 1 0;").luck(0, 20, 1), 20);
             due("in all", Check.of(wet(20, 0)).luck(0, 20, 0), 20);
             due("in none", Check.of(wet(20, 10)).luck(0, 20, 0), 0);
         });
@@ -1470,6 +1496,20 @@ public final class SentenceTests extends Cases {
             x.back(2);
             x.back(0);
             same("image 0", look(x), third);
+            LeashedNames y = Check.of(TOWN);
+            y.send(0, 0, 1);
+            y.close(2, 1);
+            y.image(0);
+            List<Long> two = look(y);
+            y.anew();
+            y.close(0, 1);
+            y.send(1, 4, 3);
+            y.send(2, 0, 0);
+            y.back(0);
+            same("its own acts", look(y), two);
+            due("its own last act", y.undo(), 1);
+            due("its own first act", y.at(0, 2), 0);
+            due("open again", y.street(2, 2), 0);
         });
         sentence("-2: no such k.", () -> {
             bounds("image", n -> Check.of(TOWN).image(n), 0, 2, -2);
@@ -1697,33 +1737,43 @@ public final class SentenceTests extends Cases {
 
     // ---- what holds of all calls ----
 
-    /** Whatever is only asked leaves all as it is, however often it is asked. */
+    /** Whatever is only asked leaves all as it is, what is asked next, too. */
     private void askedAlone() {
         check.begin("what is asked changes nothing");
-        LeashedNames x = afterActs(TOWN, 4);
-        x.send(1, 1, 2);
-        fill(x, 0, 0, 1, 1);
-        fill(x, 1, 0, 2, 1);
+        LeashedNames x = asked();
         List<Long> before = look(x);
-        long first = askAll(x);
-        same("once", look(x), before);
-        due("asked again", askAll(x), first);
-        same("twice", look(x), before);
+        for (Done call : QUESTIONS) {
+            call.to(x);
+        }
+        same("asked", look(x), before);
+        for (int i = 0; i < QUESTIONS.length; i++) {
+            int want = QUESTIONS[i].to(asked());
+            for (int k = 0; k < QUESTIONS.length; k++) {
+                LeashedNames y = asked();
+                QUESTIONS[k].to(y);
+                due("question " + i + " behind question " + k, QUESTIONS[i].to(y), want);
+            }
+        }
         check.finish();
     }
 
-    private static long askAll(LeashedNames x) {
-        long sum = 0;
-        for (int law = 0; law < 4; law++) {
-            sum = 31 * sum + x.by(law);
-        }
-        long[] got = {x.law(), x.needs(0), x.lives(1), x.dig(), x.shut(), x.homes(0, 0), x.ask(0, 0), x.leaves(0, 1), x.sniffs(1),
-            x.next(1), x.worth(3), x.share(0, 0), x.rests(0, 1), x.gets(0, 1, 1, 0), x.chance(0, 5, 0), x.mean(5, 1), x.drawn(7, 0),
-            x.drawn(7, 1), x.luck(7, 20, 0), x.cut(0, 1), x.cuts(0, 1), x.soon(0, 1), x.gather(1), x.hall(0), x.way(0, 3), x.reach(0)};
-        for (long answer : got) {
-            sum = 31 * sum + answer;
-        }
-        return sum;
+    private static final Done[] QUESTIONS = {x -> x.by(0), x -> x.by(1), x -> x.by(2), x -> x.by(3), x -> x.law(), x -> x.needs(0),
+        x -> x.lives(1), x -> x.dig(), x -> x.shut(), x -> x.homes(0, 0), x -> x.ask(0, 0), x -> x.leaves(0, 1), x -> x.sniffs(1),
+        x -> x.next(1), x -> x.worth(3), x -> x.share(0, 0), x -> x.rests(0, 1), x -> x.gets(0, 1, 1, 1), x -> x.gets(0, 1, 0, 0),
+        x -> (int) x.chance(0, 2, 0), x -> (int) x.mean(2, 0), x -> x.drawn(7, 1), x -> x.luck(7, 20, 0), x -> x.cut(0, 1),
+        x -> x.cuts(0, 1), x -> x.soon(0, 1), x -> x.gather(0), x -> x.hall(0), x -> x.way(0, 1), x -> x.reach(0)};
+
+    /** One of two sleeps at the last corner, where a well would wake it. */
+    private static LeashedNames asked() {
+        LeashedNames x = Check.of("state corners 3 steps 3 law 2 odds 4;street 0 to 2;street 1 to 2;name at 0 ink 3 loops 7 walks 2;"
+                + "name at 2 ink 0 loops 12;name at 2 ink 0 loops 5;name at 1 ink 9 loops 4 walks 1 walks 2;"
+                + "contract 0 1;contract 1 2;contract 0 3;");
+        x.send(0, 2, 1);
+        x.close(1, 1);
+        x.close(1, 0);
+        fill(x, 0, 0, 2, 2);
+        fill(x, 1, 0, 2, 0);
+        return x;
     }
 
     /** The promises hold for 512 calls. */

@@ -111,6 +111,10 @@ public final class TermTests extends Cases {
                 faultOf(HEAD + "street " + corner + " to " + corner + ";", 2, BEHIND + 12);
             }
             faultOf(LEAST + "street 0 to 0;", 2, LEAST.length() + 12);
+            String eight = told(8, 1, 0, "");
+            for (int corner = 0; corner < 8; corner++) {
+                faultOf(eight + "street " + corner + " to " + corner + ";", 2, eight.length() + 12);
+            }
             LeashedNames x = Check.of(HEAD + "street 2 to 0;name at 0 ink 9 loops 0 walks 2 walks 0;");
             due("from the second to the first", x.at(0, 1), 2);
             due("from the first to the second", x.at(0, 2), 0);
@@ -213,6 +217,7 @@ public final class TermTests extends Cases {
             for (char sign = 0; sign < 256; sign++) {
                 behindWord(sign);
                 behindNumber(sign);
+                atTheEnd(sign);
             }
         });
     }
@@ -238,6 +243,15 @@ public final class TermTests extends Cases {
             faultOf(text, 2, BEHIND + 7);
         } else {
             faultOf(text, 1, BEHIND + 8);
+        }
+    }
+
+    private void atTheEnd(char sign) {
+        String text = HEAD.replace(";", "") + sign;
+        if (sign == ';') {
+            noFaultIn(text, 1);
+        } else {
+            faultOf(text, 1, sign == ' ' || sign == '\n' || sign >= '0' && sign <= '9' ? BEHIND : BEHIND - 1);
         }
     }
 
@@ -275,6 +289,13 @@ public final class TermTests extends Cases {
             }
             for (String word : new String[] {"corners", "steps", "law", "odds", "to", "feeds", "at", "ink", "loops", "walks", "x"}) {
                 faultOf(HEAD + word, 1, BEHIND);
+            }
+            String all = HEAD + "street 0 to 1;well 0 feeds 1;name at 0 ink 0 loops 0 walks 1;";
+            for (int i = 0; i < all.length(); i++) {
+                if (all.charAt(i) >= 'a') {
+                    String other = all.substring(0, i) + (all.charAt(i) == 'a' ? 'b' : 'a') + all.substring(i + 1);
+                    faultOf(other, 1, Math.max(all.lastIndexOf(' ', i), all.lastIndexOf(';', i)) + 1);
+                }
             }
             faultOf("0", 1, 0);
             faultOf(";", 1, 0);
