@@ -342,15 +342,10 @@ public final class TermTests extends Cases {
             due("61", x.row(0, 0, 61), -2);
             due("a row of none is no nothing", x.row(3, 0, 0), 0);
             due("all names", x.sniffs(3), 31);
-            cutTo(x, 0, 8);
-            cutTo(x, 1, 16);
-            cutTo(x, 2, 32);
-            fill(x, 0, 3, 2, 1);
-            due("8 bytes", x.sniffs(0), 1 | 4 | 16);
-            for (int bit = 8; bit < 64; bit++) {
-                fill(x, 0, 3, 2 + (1L << bit), 1);
-                due("8 bytes, bit " + bit, x.sniffs(0), -2);
-            }
+            cutTo(0, 8);
+            cutTo(1, 16);
+            cutTo(2, 32);
+            cutTo(3, 64);
         });
         sentence("-2 is asked ahead of -5, -6.", () -> {
             LeashedNames x = Check.of(ring(2, 0, 0));
@@ -383,8 +378,9 @@ public final class TermTests extends Cases {
     }
 
     /** Bits above the width are cut off, those below are not. */
-    private void cutTo(LeashedNames x, int width, int bits) {
-        for (int bit = 4; bit < 64; bit += 2) {
+    private void cutTo(int width, int bits) {
+        LeashedNames x = Check.of(ring(1, 0, 0));
+        for (int bit = 4; bit < 64; bit++) {
             fill(x, 0, width, 2 + (1L << bit), 1 - (1L << bit));
             due("width " + width + ", bit " + bit, x.sniffs(0), bit < bits ? -2 : 1 | 4 | 16);
         }
